@@ -1172,8 +1172,8 @@ public final class PacketSieve {
         }
 
         /**
-         * The VALUE that uses this cell and those above it. Signs with numbers behind them may be many, and are walked in
-         * a loop; for the others a cell is taken or a bracket or stronger sign is entered, so that it can't go deep.
+         * The VALUE that uses this cell and those above it. Signs with numbers behind them may be many, and are walked
+         * in a loop; for the others a cell is taken, or a bracket or stronger sign is entered, so it can't go deep.
          */
         private void value(int node, int cell) {
             int rest = node;
