@@ -619,9 +619,10 @@ public final class PacketSieve {
         }
 
         private void expect(int kind) {
-            if (!accept(kind)) {
+            if (tokens.kind(at) != kind) {
                 throw new IllegalArgumentException();
             }
+            at++;
         }
 
         private long numberUpTo(long biggest) {

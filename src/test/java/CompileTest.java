@@ -104,6 +104,11 @@ public final class CompileTest {
             check.due("instruction(4, 0) of it", -1, () -> sieve.instruction(4, 0));
             check.due("the text stays", text.length(), sieve::clear);
         }
+        Given.type(sieve, "((((((((ip");
+        check.due("compile() with all brackets open", Given.BAD, sieve::compile);
+        check.due("compile() with all brackets open, again", Given.BAD, sieve::compile);
+        Given.type(sieve, "))))))))");
+        check.due("compile() with all of them closed", 4, sieve::compile);
         Given.type(sieve, "ip o");
         check.due("compile() of half a text", Given.BAD, sieve::compile);
         Given.type(sieve, "r tcp");

@@ -1,5 +1,7 @@
 /** Promise 5: instruction, and so the program that a filter has. Each row: operation, two ways, number. */
 public final class InstructionTest {
+    private static final String PORTS = Given.repeated("port 1", 11, "or ");
+
     public static void main(String[] args) {
         Check check = new Check();
         primitives(check);
@@ -11,7 +13,19 @@ public final class InstructionTest {
     }
 
     private static void program(Check check, String text, String... due) {
-        PacketSieve sieve = Given.typed(text);
+        program(check, new PacketSieve(Given.SNAP), text, due);
+        // What the object has compiled before leaves no trace: here, tests in most places.
+        PacketSieve used = new PacketSieve(Given.SNAP);
+        for (String before : new String[] {PORTS, PORTS, PORTS + "or 1+1=1", PORTS + "or 1+1=1"}) {
+            Given.type(used, before);
+            used.compile();
+        }
+        program(check, used, text, due);
+        program(check, used, text, due);
+    }
+
+    private static void program(Check check, PacketSieve sieve, String text, String... due) {
+        Given.type(sieve, text);
         check.due("compile() of \"" + text + "\"", due.length, sieve::compile);
         for (int k = 0; k < due.length; k++) {
             StringBuilder row = new StringBuilder();
