@@ -14,6 +14,16 @@ public final class PacketSieve {
     private static final int TCP = 2;
     private static final int UDP = 4;
 
+    // The signs between two values, by the numbers that the machine has for them.
+    private static final int PLUS = 0;
+    private static final int MINUS = 1;
+    private static final int TIMES = 2;
+    private static final int OVER = 3;
+    private static final int SHIFTED_LEFT = 4;
+    private static final int SHIFTED_RIGHT = 5;
+    private static final int BITS_OF_BOTH = 6;
+    private static final int BITS_OF_EITHER = 7;
+
     private static final int EITHER_END = 0;
     private static final int SOURCE = 1;
     private static final int TARGET = 2;
@@ -131,22 +141,22 @@ public final class PacketSieve {
         return (int) (bytes >>> (8 * i)) & 255;
     }
 
-    /** Two numbers by one of the signs 0 + 1 - 2 * 3 / 4 << 5 >> 6 & 7 |; REJECTED for a / by 0. */
+    /** Two numbers with a sign between them; REJECTED for a / by 0. */
     private static long combine(int sign, long a, long b) {
         switch (sign) {
-            case 0:
+            case PLUS:
                 return (a + b) & LOW_32_BITS;
-            case 1:
+            case MINUS:
                 return (a - b) & LOW_32_BITS;
-            case 2:
+            case TIMES:
                 return (a * b) & LOW_32_BITS;
-            case 3:
+            case OVER:
                 return b == 0 ? REJECTED : a / b;
-            case 4:
+            case SHIFTED_LEFT:
                 return b >= 32 ? 0 : (a << (int) b) & LOW_32_BITS;
-            case 5:
+            case SHIFTED_RIGHT:
                 return b >= 32 ? 0 : a >> (int) b;
-            case 6:
+            case BITS_OF_BOTH:
                 return a & b;
             default:
                 return a | b;
@@ -682,21 +692,21 @@ public final class PacketSieve {
         private static int signNumber(int kind) {
             switch (kind) {
                 case '+':
-                    return 0;
+                    return PLUS;
                 case '-':
-                    return 1;
+                    return MINUS;
                 case '*':
-                    return 2;
+                    return TIMES;
                 case '/':
-                    return 3;
+                    return OVER;
                 case Tokens.SHIFT_LEFT:
-                    return 4;
+                    return SHIFTED_LEFT;
                 case Tokens.SHIFT_RIGHT:
-                    return 5;
+                    return SHIFTED_RIGHT;
                 case '&':
-                    return 6;
+                    return BITS_OF_BOTH;
                 default:
-                    return 7;
+                    return BITS_OF_EITHER;
             }
         }
     }
@@ -1119,7 +1129,7 @@ public final class PacketSieve {
         private void end(int node, int place, int yes, int no) {
             program.prependTest(Program.IF_EQUAL, tree.number[node] & tree.mask[node], yes, no);
             if (tree.kind[node] == Tree.NET) {
-                program.prepend(Program.WITH_NUMBER + 6, tree.mask[node]);
+                program.prepend(Program.WITH_NUMBER + BITS_OF_BOTH, tree.mask[node]);
             }
             if (tree.kind[node] == Tree.PORT) {
                 fieldAtX(place, 2);
@@ -1155,7 +1165,7 @@ public final class PacketSieve {
                 value(left, 0);
             } else {
                 program.prependTest(test + Program.TEST_WITH_X, 0, ifSo, ifNot);
-                twoValues(left, 1, right, 0);
+                twoValues(left, right, 0);
             }
         }
 
@@ -1194,7 +1204,7 @@ public final class PacketSieve {
                     break;
                 default:
                     program.prepend(Program.WITH_X + tree.sort[rest], 0);
-                    twoValues(tree.left[rest], cell + 1, tree.right[rest], cell);
+                    twoValues(tree.left[rest], tree.right[rest], cell);
                     break;
             }
         }
@@ -1203,12 +1213,12 @@ public final class PacketSieve {
             return tree.kind[node] == Tree.PAIR && tree.isNumber(tree.right[node]);
         }
 
-        /** The left value in A and the right one in X, which waits in its cell. */
-        private void twoValues(int left, int leftCell, int right, int rightCell) {
-            useCell(Program.X_CELL, rightCell);
-            value(left, leftCell);
-            useCell(Program.CELL_A, rightCell);
-            value(right, rightCell);
+        /** The left value in A, and in X the right one, which waits in the cell meanwhile. */
+        private void twoValues(int left, int right, int cell) {
+            useCell(Program.X_CELL, cell);
+            value(left, cell + 1);
+            useCell(Program.CELL_A, cell);
+            value(right, cell);
         }
 
         private void access(int node, int cell) {
@@ -1223,7 +1233,7 @@ public final class PacketSieve {
             fieldAtX(start, bytes);
             program.prepend(Program.X_A, 0);
             if (protocol == TCP || protocol == UDP) {
-                program.prepend(Program.WITH_X, 0);
+                program.prepend(Program.WITH_X + PLUS, 0);
                 useCell(Program.A_CELL, cell);
                 program.prepend(Program.X_HEAD, Packet.HEADER_PLACE);
                 useCell(Program.CELL_A, cell);
@@ -1231,6 +1241,7 @@ public final class PacketSieve {
             value(index, cell);
         }
 
+        /** Half of 1, 2 and 4 bytes is 0, 1 and 2: which of the three operations it is; so at X, too. */
         private void field(long place, int bytes) {
             program.prepend(Program.A_FIELD + bytes / 2, place);
         }
