@@ -1,9 +1,14 @@
 import java.util.function.IntSupplier;
 
-/** Counts the answers that are not as due, and prints them. */
+/** Counts the answers that are not as due, and prints them with the sentence of the document that they are due by. */
 final class Check {
+    /** One fault may turn many answers wrong: the first ones tell enough. */
+    private static final int MOST_TOLD = 40;
+
     private int asked;
     private int wrong;
+    private String sentence = "";
+    private int askedBefore;
 
     /** An answer as the issues write it: a number, or throws. and the name of an exception. */
     static String answer(IntSupplier call) {
@@ -14,6 +19,13 @@ final class Check {
         }
     }
 
+    /** The words of the document that what follows is a test of. */
+    void sentence(String words) {
+        endSentence();
+        sentence = words;
+        askedBefore = asked;
+    }
+
     void due(String what, Object want, IntSupplier call) {
         same(what, want.toString(), answer(call));
     }
@@ -21,8 +33,7 @@ final class Check {
     void same(String what, Object want, Object got) {
         asked++;
         if (!want.equals(got)) {
-            wrong++;
-            System.out.println(what + " answered " + got + ", due is " + want);
+            miss(what + " answered " + got + ", due is " + want);
         }
     }
 
@@ -31,9 +42,24 @@ final class Check {
     }
 
     void finish() {
+        endSentence();
         System.out.println(asked + " answers, " + wrong + " not as due");
         if (wrong != 0 || asked == 0) {
             System.exit(1);
+        }
+    }
+
+    /** A sentence without an answer has no test, whatever stands below it. */
+    private void endSentence() {
+        if (!sentence.isEmpty() && asked == askedBefore) {
+            miss("no answer was asked for");
+        }
+    }
+
+    private void miss(String what) {
+        wrong++;
+        if (wrong <= MOST_TOLD) {
+            System.out.println(what + (sentence.isEmpty() ? "" : " (\"" + sentence + "\")"));
         }
     }
 }

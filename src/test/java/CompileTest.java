@@ -1,117 +1,191 @@
-/** Promise 4: compile, and so what is a filter and what is none. */
-public final class CompileTest {
-    private static final String[] FILTERS = {
-        "ip", "tcp", "udp", " ip ", "(ip)", "( ip )", "not ip", "not not ip", "not(ip)", "ip and tcp", "ip or tcp",
-        "ip and tcp or udp", "not(ip or tcp)and udp", "host 1.2.3.4", "src host 0.0.0.0", "dst host 255.255.255.255",
-        "host1.2.3.4", "host 1 . 2 . 3 . 4", "host 001.02.0003.4", "net 1.2.3.4/0", "src net 1.2.3.4/32",
-        "dst net 1.2.3.4 / 07", "port 0", "port 65535", "src port 1", "dst port 000000000000000000001", "port80or port81",
-        "1=1", "1!=1", "1<1", "1>1", "1<=1", "1>=1", "1 = 1", "len=0", "4294967295=0", "00000000004294967295=0",
-        "{1}=1", "{{1}}={1}", "1+2*3=7", "1|2&3<<4>>5+6-7*8/9=0", "len*len=len", "{1+2}*3=9", "1=1or 1=2and 1=3",
-        "ether[0]=1", "ip[0]=1", "tcp[0]=1", "udp[0]=1", "ip [0] = 1", "ip[0:1]=1", "ip[0:2]=1", "ip[0:4]=1",
-        "ip[0:04]=1", "ip[len:2]=ip[ip[0]:1]", "ether[{len}]=0", "(ip[0]=1)", "not ip[0]=1", "1<{2<<3}", "1<<2<3",
-        "1=1and(ip or not udp)", "tcp[tcp[12]/4*4:4]&4294901760>udp[len-1]",
-        "((((((((ip))))))))", "{{{{{{{{1}}}}}}}}=1", "1={{{{{{{{1}}}}}}}}",
-        "ip[ip[ip[ip[ip[ip[ip[ip[0]]]]]]]]=1", "(({{ip[ip[{{1}}]]}}=1))", "((((((((ip))))))))or((((((((ip))))))))",
-    };
+import java.util.ArrayList;
+import java.util.List;
 
-    private static final String[] NO_FILTERS = {
-        "", " ", "i p", "IP", "ipx", "ne", "foo", "notip", "not", "ip and", "and ip", "ip or", "or", "ip ip", "ip tcp",
-        "()", "(ip", "ip)", "(ip))", "(", ")", "(1)=1", "{ip}", "{1=1}", "ip or or ip", "not and ip", "ip not tcp",
-        "host", "host 1.2.3", "host 1.2.3.256", "host 256.0.0.0", "host 1.2.3.4.5", "host 1,2,3,4", "host 1.2.3.4/8",
-        "src", "dst", "src ip", "src 1.2.3.4", "src dst port 1", "dst tcp", "src 1=1", "host ip", "host 1.256.3.4",
-        "net 1.2.3.4", "net 1.2.3.4/33", "net 1.2.3.4/", "net 1.2.3/8", "net 1.2.3.4/8/2", "net 300.0.0.0/8",
-        "port", "port 65536", "port 4294967296", "port -1", "port len", "port {1}", "port 1 2", "srcport 1",
-        "1", "len", "1=", "=1", "1=1=1", "1==1", "1=>1", "1=<1", "1< <2", "1! =2", "1> =2", "1<>2", "1!2", "1~2", "1<<2",
-        "1>>=1", "1<<=1", "-1=1", "1=-1", "1+=1", "1++1=1", "1+*1=1", "1&&1=1", "1||1=1", "1%2=1", "1^1=1", "!ip",
-        "4294967296=0", "1=4294967296", "99999999999999999999999999=0", "18446744073709551617=1", "0x1=1", "1.0=1",
-        "{}=1", "{1=1", "1}=1", "{1}}=1", "{1)=1", "(1=1}", "ether", "ether=1", "ip=1", "ip[]=1", "ip[0]", "ip[0=1",
-        "ip 0]=1", "ip[0:0]=1", "ip[0:3]=1", "ip[0:5]=1", "ip[0:8]=1", "ip[0:]=1", "ip[:1]=1", "ip[0:{1}]=1",
-        "ip[0:len]=1", "ip[0:1:1]=1", "ip[0)=1", "ip[0]0=1", "len[0]=1", "host[0]=1", "(ip)[0]=1", "ip[ip]=1", "len len=1",
-        "1 2=3", "ip[0][0]=1", "ip[1=1]=1", "1=1 1=1", "1=1)", "ip[0:4294967296]=1", "ip[0:4294967297]=1",
-        "(((((((((ip)))))))))", "{{{{{{{{{1}}}}}}}}}=1", "1={{{{{{{{{1}}}}}}}}}",
-        "ip[ip[ip[ip[ip[ip[ip[ip[ip[0]]]]]]]]]=1", "(({{ip[ip[{{{1}}}]]}}=1))", "((((((((1={1}))))))))",
-        "ip#", "ip\"", "ip;tcp", "ip~", "ip_tcp", "ip,tcp", "ip\\", "@ip", "tcp $", "1='1'",
-    };
+/** Promise 4: compile. What is a filter is left to GrammarTest, what is too long to TooLongTest. */
+public final class CompileTest {
+    private static final String SIXTEEN_PORTS = Given.repeated("port 1", 16, "or ");
+    private static final String MANY_CELLS = Given.repeated("len", 18, "+") + "=1";
+    private static final String[] NO_FILTERS = {"", " ", "tcp or", "(udp[0]=1", "1=1)", "len", "1=2 or port 65536", "~"};
+    private static final String[] TOO_LONG = {SIXTEEN_PORTS, MANY_CELLS, "udp or " + MANY_CELLS, "len=1 or(" + SIXTEEN_PORTS + ")"};
+
+    private final Check check = new Check();
 
     public static void main(String[] args) {
-        Check check = new Check();
-        for (String text : FILTERS) {
-            PacketSieve sieve = Given.typed(text);
-            check.same("\"" + text + "\" is a filter", false, Check.answer(sieve::compile).startsWith("throws"));
-            check.due("clear() behind \"" + text + "\"", 0, sieve::clear);
-        }
-        for (String text : NO_FILTERS) {
-            PacketSieve sieve = Given.typed(text);
-            check.due("compile() of \"" + text + "\"", Given.BAD, sieve::compile);
-            check.due("clear() behind \"" + text + "\"", text.length(), sieve::clear);
-        }
-        counts(check);
-        tooLong(check);
-        staysOnRefusal(check);
+        new CompileTest().test();
+    }
+
+    private void test() {
+        becomesTheFilter();
+        textIsEmptyThen();
+        howMany();
+        noFilter();
+        tooLong();
+        noFilterAheadOfTooLong();
+        filterStays();
+        noFilterStays();
+        textStays();
+        restStays();
         check.finish();
     }
 
-    private static void compiles(Check check, String text, Object due) {
-        check.due("compile() of \"" + text + "\"", due, Given.typed(text)::compile);
-    }
-
-    private static void counts(Check check) {
-        compiles(check, "ip", 4);
-        compiles(check, "udp", 6);
-        compiles(check, "not tcp", 6);
-        compiles(check, "src host 1.2.3.4", 6);
-        compiles(check, "host 1.2.3.4", 8);
-        compiles(check, "net 1.2.3.4/8", 10);
-        compiles(check, "dst net 1.2.3.4/8", 7);
-        compiles(check, "port 1", 14);
-        compiles(check, "src port 1", 12);
-        compiles(check, "{{1}}={{2}}", 4);
-        compiles(check, Given.repeated("1", 78, "+") + "=11", 81);
-    }
-
-    private static void tooLong(Check check) {
-        compiles(check, Given.repeated("len", 17, "+") + "=1", 68);
-        compiles(check, Given.repeated("len", 18, "+") + "=1", Given.TOO_LONG);
-        compiles(check, Given.repeated("len", 16, "+") + "=len", 67);
-        compiles(check, Given.repeated("len", 17, "+") + "=len", Given.TOO_LONG);
-        compiles(check, "1=" + Given.repeated("len", 17, "-"), 71);
-        compiles(check, "1=" + Given.repeated("len", 18, "-"), Given.TOO_LONG);
-        compiles(check, "ether[len]+" + Given.repeated("len", 16, "+") + "=1", 70);
-        compiles(check, "tcp[0]+" + Given.repeated("len", 15, "+") + "=1", 76);
-        compiles(check, "tcp[0]+" + Given.repeated("len", 16, "+") + "=1", Given.TOO_LONG);
-        compiles(check, "udp[0]+" + Given.repeated("len", 16, "+") + "=1", Given.TOO_LONG);
-        String ports = Given.repeated("port 1", 12, " or ");
-        compiles(check, ports, 146);
-        compiles(check, ports + " or tcp", 150);
-        compiles(check, ports + " or 1+1+1=1", 150);
-        compiles(check, ports + " or 1+1+1+1=1", Given.TOO_LONG);
-        compiles(check, "not(" + ports + " and src host 1.1.1.1)", 150);
-        compiles(check, ports + " and dst net 1.1.1.1/1", Given.TOO_LONG);
-        compiles(check, Given.repeated("port 1", 15, "and ") + "and", Given.BAD);
-        compiles(check, Given.repeated("len", 18, "+") + "=1)", Given.BAD);
-    }
-
-    private static void staysOnRefusal(Check check) {
-        PacketSieve sieve = Given.compiled("len=0");
-        String[] refused = {"tcp or", Given.repeated("port 1", 15, " or "), "(udp[0]=1", Given.repeated("len", 20, "*") + "=1"};
-        for (String text : refused) {
-            Given.type(sieve, text);
-            check.same("\"" + text + "\" is refused", true, Check.answer(sieve::compile).startsWith("throws"));
-            check.same("\"" + text + "\" is refused again", true, Check.answer(sieve::compile).startsWith("throws"));
-            check.due("holds() by the filter before", 1, sieve::holds);
-            check.due("run() of the program before", Given.SNAP, sieve::run);
-            check.due("instruction(1, 0) of it", 40, () -> sieve.instruction(1, 0));
-            check.due("instruction(4, 0) of it", -1, () -> sieve.instruction(4, 0));
-            check.due("the text stays", text.length(), sieve::clear);
+    private void becomesTheFilter() {
+        check.sentence("The text becomes the filter");
+        Sieve sieve = new Sieve(Given.SNAP);
+        Given.packet(sieve, Given.tcp());
+        String[] texts = {"tcp", "udp", "port 80", "1=2", "len=60", "dst host 1.2.3.4", "ip"};
+        int[] dues = {1, 0, 1, 0, 1, 0, 1};
+        for (int i = 0; i < texts.length; i++) {
+            Given.type(sieve, texts[i]);
+            if (i > 0) {
+                check.due("holds() ahead of compile() of \"" + texts[i] + "\"", dues[i - 1], sieve::holds);
+            }
+            sieve.compile();
+            check.due("holds() of \"" + texts[i] + "\"", dues[i], sieve::holds);
+            check.due("run() of \"" + texts[i] + "\"", dues[i] * Given.SNAP, sieve::run);
         }
-        Given.type(sieve, "((((((((ip");
-        check.due("compile() with all brackets open", Given.BAD, sieve::compile);
-        check.due("compile() with all brackets open, again", Given.BAD, sieve::compile);
-        Given.type(sieve, "))))))))");
-        check.due("compile() with all of them closed", 4, sieve::compile);
-        Given.type(sieve, "ip o");
-        check.due("compile() of half a text", Given.BAD, sieve::compile);
-        Given.type(sieve, "r tcp");
-        check.due("compile() of the whole text", 8, sieve::compile);
+    }
+
+    private void textIsEmptyThen() {
+        check.sentence("and is empty then");
+        Sieve sieve = Given.typed("1=1");
+        check.due("compile()", 4, sieve::compile);
+        check.due("compile() again", Given.BAD, sieve::compile);
+        check.due("clear()", 0, sieve::clear);
+        check.due("holds() by the filter", 1, sieve::holds);
+        check.due("type of one character", 1, () -> sieve.type('1', 1));
+        Sieve full = Given.typed("1=1" + Given.repeated(" ", 157, ""));
+        check.due("compile() of 160 characters", 4, full::compile);
+        check.due("type of 8 characters", 8, () -> full.type(Given.packed("not 2=2 "), 8));
+        check.due("compile() of these", 4, full::compile);
+        check.due("holds() of these", 0, full::holds);
+    }
+
+    private void howMany() {
+        check.sentence("how many instructions its program has");
+        String[] texts = {"1=1", "ip", "udp", "not tcp", "src host 1.2.3.4", "host 1.2.3.4", "net 1.2.3.4/8",
+            "dst net 1.2.3.4/8", "port 1", "src port 1", "{{1}}={{2}}", "1={2+3}", "tcp[0]=1", "udp[len]=ip[0]",
+            Given.repeated("1", 78, "+") + "=11"};
+        int[] dues = {4, 4, 6, 6, 6, 8, 10, 7, 14, 12, 4, 8, 16, 21, 81};
+        for (int i = 0; i < texts.length; i++) {
+            Sieve sieve = Given.typed(texts[i]);
+            int due = dues[i];
+            check.due("compile() of \"" + texts[i] + "\"", due, sieve::compile);
+            check.same("its last instruction but one", "60 0 0 1500", Given.instruction(sieve, due - 2));
+            check.same("its last instruction", "60 0 0 0", Given.instruction(sieve, due - 1));
+            check.due("the one behind", -1, () -> sieve.instruction(due, 0));
+        }
+    }
+
+    private void noFilter() {
+        check.sentence("IllegalArgumentException: it is no filter");
+        for (String text : NO_FILTERS) {
+            check.due("compile() of \"" + text + "\"", Given.BAD, Given.typed(text)::compile);
+        }
+    }
+
+    private void tooLong() {
+        check.sentence("UnsupportedOperationException: it is TOO LONG");
+        for (String text : TOO_LONG) {
+            check.due("compile() of \"" + text + "\"", Given.TOO_LONG, Given.typed(text)::compile);
+        }
+    }
+
+    private void noFilterAheadOfTooLong() {
+        check.sentence("IllegalArgumentException: it is no filter (so it can't be TOO LONG)");
+        for (String text : TOO_LONG) {
+            for (String more : new String[] {" or", ")", "=1", " ip", "~"}) {
+                check.due("compile() of \"" + text + more + "\"", Given.BAD, Given.typed(text + more)::compile);
+            }
+            check.due("compile() of \"(" + text + "\"", Given.BAD, Given.typed("(" + text)::compile);
+        }
+    }
+
+    private static List<String> program(Sieve sieve) {
+        List<String> rows = new ArrayList<>();
+        for (int k = 0; sieve.instruction(k, 0) >= 0; k++) {
+            rows.add(Given.instruction(sieve, k));
+        }
+        return rows;
+    }
+
+    private static String[] refused() {
+        List<String> all = new ArrayList<>(List.of(NO_FILTERS));
+        all.addAll(List.of(TOO_LONG));
+        return all.toArray(new String[0]);
+    }
+
+    private static Object due(String text) {
+        return List.of(TOO_LONG).contains(text) ? Given.TOO_LONG : Given.BAD;
+    }
+
+    private void filterStays() {
+        check.sentence("(The filter stays as it was then.)");
+        for (String text : refused()) {
+            Sieve sieve = Given.compiled("len=5 and not ether[1+1:2]=772", 1, 2, 3, 4, 5);
+            List<String> before = program(sieve);
+            Given.type(sieve, text);
+            check.due("compile() of \"" + text + "\"", due(text), sieve::compile);
+            check.due("holds() behind \"" + text + "\"", 0, sieve::holds);
+            check.due("run() behind \"" + text + "\"", 0, sieve::run);
+            check.due("set(3, 5)", 4, () -> sieve.set(3, 5));
+            check.due("compile() again", due(text), sieve::compile);
+            check.due("holds() behind \"" + text + "\" again", 1, sieve::holds);
+            check.due("run() behind \"" + text + "\" again", Given.SNAP, sieve::run);
+            check.same("the program behind \"" + text + "\"", before, program(sieve));
+        }
+    }
+
+    private void noFilterStays() {
+        check.sentence("(The filter stays as it was then: there is none.)");
+        for (String text : refused()) {
+            Sieve sieve = Given.typed(text);
+            check.due("compile() of \"" + text + "\"", due(text), sieve::compile);
+            check.due("holds() behind \"" + text + "\"", Given.EARLY, sieve::holds);
+            check.due("run() behind \"" + text + "\"", Given.EARLY, sieve::run);
+            check.due("instruction(0, 0) behind \"" + text + "\"", -1, () -> sieve.instruction(0, 0));
+            check.due("state(0) behind \"" + text + "\"", 0, () -> sieve.state(0));
+        }
+    }
+
+    private void textStays() {
+        check.sentence("(The text stays as it was then.)");
+        for (String text : refused()) {
+            Sieve sieve = Given.typed(text);
+            check.due("compile() of \"" + text + "\"", due(text), sieve::compile);
+            check.due("compile() of \"" + text + "\" again", due(text), sieve::compile);
+            check.due("type behind it", text.length() + 1, () -> sieve.type(' ', 1));
+            check.due("compile() of \"" + text + " \"", due(text), sieve::compile);
+            check.due("clear()", text.length() + 1, sieve::clear);
+        }
+        Sieve halves = Given.typed("ip o");
+        check.due("compile() of half a text", Given.BAD, halves::compile);
+        Given.type(halves, "r tcp");
+        check.due("compile() of the whole text", 8, halves::compile);
+        Sieve brackets = Given.typed("((((((((ip");
+        check.due("compile() with all brackets open", Given.BAD, brackets::compile);
+        check.due("compile() with all brackets open, again", Given.BAD, brackets::compile);
+        Given.type(brackets, "))))))))");
+        check.due("compile() with all of them closed", 4, brackets::compile);
+        Sieve cells = Given.typed(MANY_CELLS);
+        check.due("compile() of too many cells", Given.TOO_LONG, cells::compile);
+        Given.type(cells, "=");
+        check.due("compile() of what is no filter any more", Given.BAD, cells::compile);
+    }
+
+    private void restStays() {
+        check.sentence("compile (and nothing of the packet or of the latest run)");
+        Sieve sieve = Given.compiled("ether[0]=ether[1]", 7, 8, 9);
+        sieve.run();
+        for (String text : new String[] {"ip", "ip and", MANY_CELLS}) {
+            sieve.clear();
+            Given.type(sieve, text);
+            Check.answer(sieve::compile);
+            check.due("state(0) behind compile() of \"" + text + "\"", 6, () -> sieve.state(0));
+            check.due("state(1)", 7, () -> sieve.state(1));
+            check.due("state(2)", 8, () -> sieve.state(2));
+            check.due("state(3)", 8, () -> sieve.state(3));
+            check.due("cut(3) of the packet", 3, () -> sieve.cut(3));
+            check.due("set(2, 9)", 9, () -> sieve.set(2, 9));
+        }
     }
 }

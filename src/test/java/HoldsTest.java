@@ -1,179 +1,146 @@
-/** Promises 9 and 10: what a filter says of a packet, asked at once and by its program. */
+/** Promises 9 and 10: what a filter says of a packet. NumbersTest, FieldsTest and LookingTest have more of it. */
 public final class HoldsTest {
+    private final Check check = new Check();
+    private final Verdict verdict = new Verdict(check);
+
     public static void main(String[] args) {
-        Check check = new Check();
-        protocols(check);
-        addresses(check);
-        ports(check);
-        logic(check);
-        relations(check);
-        values(check);
-        accesses(check);
-        rejects(check);
-        withoutFilter(check);
+        new HoldsTest().test();
+    }
+
+    private void test() {
+        withoutFilter();
+        threeAnswers();
+        againAndAgain();
+        nothingElse();
+        logic();
+        grouping();
+        longFilters();
+        relationsOfAccesses();
+        protocolsOfRelations();
+        accessesInAccesses();
         check.finish();
     }
 
-    private static void says(Check check, String text, int[] packet, int due) {
-        PacketSieve sieve = Given.compiled(text);
-        Given.packet(sieve, packet);
-        check.due("holds() of \"" + text + "\"", due, sieve::holds);
-        check.due("run() of \"" + text + "\"", due == 1 ? Given.SNAP : 0, sieve::run);
-        check.due("holds() of \"" + text + "\" behind run()", due, sieve::holds);
+    private void withoutFilter() {
+        check.sentence("IllegalStateException: there is no filter");
+        Sieve fresh = new Sieve(1);
+        check.due("holds() of a new object", Given.EARLY, fresh::holds);
+        Sieve sieve = Given.typed("ip");
+        check.due("holds() of what is only typed", Given.EARLY, sieve::holds);
+        Given.type(sieve, " or");
+        check.due("compile() of no filter", Given.BAD, sieve::compile);
+        check.due("holds() behind it", Given.EARLY, sieve::holds);
+        sieve.clear();
+        Given.type(sieve, Given.repeated("port 1", 15, " or "));
+        check.due("compile() of a filter that is too long", Given.TOO_LONG, sieve::compile);
+        check.due("holds() behind it", Given.EARLY, sieve::holds);
+        sieve.clear();
+        Given.packet(sieve, Given.tcp());
+        check.due("holds() with a packet alone", Given.EARLY, sieve::holds);
+        Given.type(sieve, "ip");
+        sieve.compile();
+        check.due("holds() with a filter", 1, sieve::holds);
+        Given.type(sieve, "ip or");
+        check.due("compile() of no filter", Given.BAD, sieve::compile);
+        check.due("holds() by the filter that there is", 1, sieve::holds);
+        sieve.clear();
+        check.due("holds() behind clear()", 1, sieve::holds);
     }
 
-    private static int[] with(int[] packet, int place, int v) {
-        int[] changed = packet.clone();
-        changed[place] = v;
-        return changed;
-    }
-
-    private static int[] first(int[] packet, int n) {
-        return java.util.Arrays.copyOf(packet, n);
-    }
-
-    private static void protocols(Check check) {
-        says(check, "ip", Given.tcp(), 1);
-        says(check, "ip", with(Given.tcp(), 12, 9), 0);
-        says(check, "ip", with(Given.tcp(), 13, 1), 0);
-        says(check, "ip", first(Given.tcp(), 14), 1);
-        says(check, "ip", first(Given.tcp(), 13), -1);
-        says(check, "tcp", Given.tcp(), 1);
-        says(check, "tcp", Given.udp(), 0);
-        says(check, "tcp", first(Given.tcp(), 24), 1);
-        says(check, "tcp", first(Given.tcp(), 23), -1);
-        says(check, "tcp", first(with(Given.tcp(), 12, 0), 14), 0);
-        says(check, "tcp", with(Given.tcp(), 21, 1), 1);
-        says(check, "udp", Given.udp(), 1);
-        says(check, "udp", Given.tcp(), 0);
-        says(check, "udp", Given.ip(1, 5), 0);
-        says(check, "udp", with(Given.udp(), 12, 0), 0);
-    }
-
-    private static void addresses(Check check) {
-        int[] packet = Given.tcp();
-        says(check, "host 1.2.3.4", packet, 1);
-        says(check, "host 5.6.7.8", packet, 1);
-        says(check, "host 1.2.3.5", packet, 0);
-        says(check, "src host 1.2.3.4", packet, 1);
-        says(check, "src host 5.6.7.8", packet, 0);
-        says(check, "dst host 5.6.7.8", packet, 1);
-        says(check, "dst host 1.2.3.4", packet, 0);
-        says(check, "host 1.2.3.4", with(packet, 12, 0), 0);
-        says(check, "host 1.2.3.4", first(packet, 30), 1);
-        says(check, "host 5.6.7.8", first(packet, 33), -1);
-        says(check, "src host 5.6.7.8", first(packet, 30), 0);
-        says(check, "src host 1.2.3.4", first(packet, 29), -1);
-        says(check, "dst host 5.6.7.8", first(packet, 33), -1);
-        says(check, "host 255.254.253.252", with(with(with(with(packet, 30, 255), 31, 254), 32, 253), 33, 252), 1);
-        says(check, "net 1.2.0.0/16", packet, 1);
-        says(check, "net 1.2.9.9/16", packet, 1);
-        says(check, "net 1.2.9.9/20", packet, 1);
-        says(check, "net 1.2.9.9/21", packet, 0);
-        says(check, "net 5.6.7.10/31", packet, 0);
-        says(check, "net 5.6.7.9/30", packet, 1);
-        says(check, "net 9.9.9.9/0", packet, 1);
-        says(check, "net 9.9.9.9/1", packet, 1);
-        says(check, "net 129.9.9.9/1", packet, 0);
-        says(check, "net 1.2.3.4/32", packet, 1);
-        says(check, "net 1.2.3.5/32", packet, 0);
-        says(check, "src net 5.0.0.0/8", packet, 0);
-        says(check, "dst net 5.0.0.0/8", packet, 1);
-        says(check, "src net 1.0.0.0/8", packet, 1);
-        says(check, "dst net 1.0.0.0/8", packet, 0);
-        says(check, "net 9.9.9.9/0", with(packet, 12, 0), 0);
-        says(check, "net 9.9.9.9/0", first(packet, 28), -1);
-        says(check, "dst net 9.9.9.9/0", first(packet, 30), -1);
-    }
-
-    private static void ports(Check check) {
-        int[] tcp = Given.tcp();
-        says(check, "port 1000", tcp, 1);
-        says(check, "port 80", tcp, 1);
-        says(check, "port 81", tcp, 0);
-        says(check, "src port 1000", tcp, 1);
-        says(check, "src port 80", tcp, 0);
-        says(check, "dst port 80", tcp, 1);
-        says(check, "dst port 1000", tcp, 0);
-        says(check, "dst port 80", Given.udp(), 1);
-        says(check, "src port 1000", Given.udp(), 1);
-        says(check, "port 80", Given.ip(1, 5), 0);
-        says(check, "port 80", with(tcp, 12, 0), 0);
-        says(check, "port 80", with(tcp, 21, 1), 0);
-        says(check, "port 80", with(tcp, 20, 16), 0);
-        says(check, "port 80", with(tcp, 20, 0xE0), 1);
-        says(check, "port 80", Given.ip(6, 7), 1);
-        says(check, "port 80", with(Given.ip(6, 7), 14, 0xF7), 1);
-        says(check, "port 0", Given.ip(6, 11), 1);
-        says(check, "port 5", Given.ip(6, 11), -1);
-        says(check, "port 0", Given.ip(6, 12), -1);
-        says(check, "port 80", first(tcp, 38), 1);
-        says(check, "port 80", first(tcp, 37), -1);
-        says(check, "port 1000", first(tcp, 36), 1);
-        says(check, "src port 1", first(tcp, 36), 0);
-        says(check, "src port 1000", first(tcp, 35), -1);
-        says(check, "port 80", first(Given.ip(1, 5), 24), 0);
-        says(check, "port 80", first(tcp, 23), -1);
-        says(check, "port 80", first(with(tcp, 21, 1), 24), 0);
-    }
-
-    private static void logic(Check check) {
-        int[] packet = Given.tcp();
-        says(check, "ip and tcp", packet, 1);
-        says(check, "ip and udp", packet, 0);
-        says(check, "udp and ip", packet, 0);
-        says(check, "udp or tcp", packet, 1);
-        says(check, "udp or 1=2", packet, 0);
-        says(check, "not udp", packet, 1);
-        says(check, "not ip", packet, 0);
-        says(check, "not not ip", packet, 1);
-        says(check, "not udp and udp", packet, 0);
-        says(check, "not(udp and udp)", packet, 1);
-        says(check, "1=1 or 1=1 and 1=2", packet, 1);
-        says(check, "(1=1 or 1=1) and 1=2", packet, 0);
-        says(check, "1=2 and 1=1 or 1=1", packet, 1);
-        says(check, "1=2 and (1=1 or 1=1)", packet, 0);
-        says(check, "ip and not(udp or not tcp and ip)", packet, 1);
-        says(check, Given.repeated("1=2", 31, "or") + "or ip", packet, 1);
-        says(check, Given.repeated("not", 39, " ") + " ip", packet, 0);
-    }
-
-    private static void relations(Check check) {
-        String[] signs = {"=", "!=", "<", ">", "<=", ">="};
-        int[][] dues = {{0, 1, 0}, {1, 0, 1}, {1, 0, 0}, {0, 0, 1}, {1, 1, 0}, {0, 1, 1}};
-        int[] packet = new int[7];
-        for (int i = 0; i < signs.length; i++) {
-            for (int other = 6; other <= 8; other++) {
-                says(check, other + signs[i] + "7", packet, dues[i][other - 6]);
-                says(check, other + signs[i] + "len", packet, dues[i][other - 6]);
+    private void threeAnswers() {
+        check.sentence("What the filter says of the packet: 1 it holds, 0 it does not, -1 it REJECTS");
+        for (int snap : new int[] {1, 2, 65535, Integer.MAX_VALUE}) {
+            Sieve sieve = new Sieve(snap);
+            String[] texts = {"1=1", "1=2", "1/0=1", "not 1=1", "not 1=2", "not 1/0=1"};
+            int[] dues = {1, 0, -1, 0, 1, -1};
+            for (int i = 0; i < texts.length; i++) {
+                Given.type(sieve, texts[i]);
+                sieve.compile();
+                check.due("holds() of \"" + texts[i] + "\"", dues[i], sieve::holds);
+                check.due("run() of \"" + texts[i] + "\"", dues[i] == 1 ? snap : 0, sieve::run);
             }
         }
-        says(check, "4294967295>2147483647", packet, 1);
-        says(check, "4294967295>len", packet, 1);
-        says(check, "0-1>=len", packet, 1);
-        says(check, "4294967295<0", packet, 0);
     }
 
-    private static void values(Check check) {
-        int[] packet = new int[9];
-        String[] equal = {
-            "1+2*3=7", "{1+2}*3=9", "10-3-2=5", "10-{3-2}=9", "100/5/2=10", "100/{5/2}=50", "7/2*2=6", "2*7/2=7",
-            "1<<2+1=8", "{1<<2}+1=5", "256>>4>>2=4", "1<<4>>2=4", "1<<31=2147483648", "1<<32=0", "3<<31=2147483648",
-            "4294967295>>31=1", "4294967295>>32=0", "1<<4294967295=0", "4294967295>>4294967295=0", "5<<0=5", "1>>33=0",
-            "1<<len=512", "1<<{len*4}=0", "1024>>len=2", "1024>>{len*9}=0", "1<<64=0", "1>>64=0",
-            "6&3|8=10", "8|6&3=10", "12&10=8", "12|10=14", "1|2<<1=5", "3&2+1=3", "6&{2|4}=6", "1+1&2=2",
-            "4294967295+1=0", "4294967295+4294967295=4294967294", "0-1=4294967295", "3-5+2=0", "65536*65536=0",
-            "4294967295*4294967295=1", "4294967295*len=4294967287", "4294967295/2=2147483647",
-            "4294967295/4294967294=1", "2147483648/4294967295=0", "0/5=0", "len=9", "len-len=0", "len/2=4", "81/len=len",
-            "len-1-len=4294967295", "len*len+len=90", "{{{len}}}=9", "00000000000009=len", "len|len&0=len",
-        };
-        for (String text : equal) {
-            says(check, text, packet, 1);
-            says(check, text.replace("=", "!="), packet, 0);
+    private void againAndAgain() {
+        check.sentence("What the filter says of the packet (as it is now)");
+        Sieve sieve = Given.compiled("ether[1]/ether[0]=2", 1, 2);
+        for (int i = 0; i < 3; i++) {
+            check.due("holds()", 1, sieve::holds);
+            check.due("set(0, 0)", 1, () -> sieve.set(0, 0));
+            check.due("holds() with a 0", -1, sieve::holds);
+            check.due("run() with a 0", 0, sieve::run);
+            check.due("set(0, 2)", 0, () -> sieve.set(0, 2));
+            check.due("holds() with a 2", 0, sieve::holds);
+            check.due("run() with a 2", 0, sieve::run);
+            check.due("cut(1)", 2, () -> sieve.cut(1));
+            check.due("holds() of half", -1, sieve::holds);
+            check.due("put(4)", 2, () -> sieve.put(4, 1));
+            check.due("holds() with a 4", 1, sieve::holds);
+            check.due("run() with a 4", Given.SNAP, sieve::run);
+            sieve.cut(0);
+            sieve.put(Given.packed(1, 2), 2);
         }
     }
 
-    private static void accesses(Check check) {
+    private void nothingElse() {
+        check.sentence("holds (and nothing is changed by it)");
+        Sieve sieve = Given.compiled("ether[0]+len=3", 1, 2);
+        sieve.run();
+        Given.type(sieve, "1=");
+        sieve.set(0, 9);
+        check.due("holds()", 0, sieve::holds);
+        check.due("state(0)", 7, () -> sieve.state(0));
+        check.due("state(1)", 3, () -> sieve.state(1));
+        check.due("state(2)", 2, () -> sieve.state(2));
+        check.due("state(3)", 2, () -> sieve.state(3));
+        check.due("clear()", 2, sieve::clear);
+        check.due("cut(2)", 2, () -> sieve.cut(2));
+        check.due("instruction(0, 0)", 1, () -> sieve.instruction(0, 0));
+    }
+
+    private void logic() {
+        check.sentence("a and b, a or b, not a");
+        int[] packet = Given.tcp();
+        String[] yes = {"1=1", "tcp", "port 80", "not udp", "(ip)"};
+        String[] no = {"1=2", "udp", "port 81", "not tcp", "(host 9.9.9.9)"};
+        for (int i = 0; i < yes.length; i++) {
+            verdict.eachSays(packet, 1, yes[i], "not " + no[i], "not not " + yes[i], yes[i] + " and " + yes[i], yes[i] + " or " + no[i],
+                    no[i] + " or " + yes[i], yes[i] + " or " + yes[i], "not(" + yes[i] + " and " + no[i] + ")", "not(" + no[i] + " or " + no[i] + ")",
+                    "not " + no[i] + " and " + yes[i], "not " + yes[i] + " or " + yes[i]);
+            verdict.eachSays(packet, 0, no[i], "not " + yes[i], "not not " + no[i], yes[i] + " and " + no[i], no[i] + " and " + yes[i],
+                    no[i] + " and " + no[i], no[i] + " or " + no[i], "not(" + yes[i] + " or " + no[i] + ")", "not(" + no[i] + " or " + yes[i] + ")",
+                    "not " + yes[i] + " and " + yes[i], "not " + yes[i] + " or " + no[i]);
+        }
+    }
+
+    private void grouping() {
+        check.sentence("and binds ahead of or, not ahead of both; ( ) go first");
+        int[] packet = Given.tcp();
+        verdict.eachSays(packet, 1, "1=1 or 1=1 and 1=2", "1=2 and 1=1 or 1=1", "1=2 and 1=2 or 1=1 and 1=1", "not 1=2 and 1=1", "not 1=1 or 1=1",
+                "not(1=1 and 1=2)", "1=1 and(1=2 or 1=1)", "ip and not(udp or not tcp and ip)", "(1=2 or 1=1)and(1=1 or 1=2)");
+        verdict.eachSays(packet, 0, "(1=1 or 1=1)and 1=2", "1=2 and(1=1 or 1=1)", "1=2 or 1=1 and 1=2", "1=2 and 1=1 or 1=2", "not 1=1 and 1=2",
+                "not(1=1 or 1=2)", "not(1=2 or 1=1)and 1=1", "not 1=2 and 1=2", "not(not(1=2))");
+    }
+
+    private void longFilters() {
+        check.sentence("({ } any number of times)");
+        int[] packet = Given.tcp();
+        verdict.says(Given.repeated("1=2", 31, "or") + "or ip", packet, 1);
+        verdict.says(Given.repeated("1=2", 31, "or") + "or udp", packet, 0);
+        verdict.says(Given.repeated("1=1", 25, "and") + "and ip", packet, 1);
+        verdict.says(Given.repeated("1=1", 25, "and") + "and udp", packet, 0);
+        verdict.says(Given.repeated("not", 39, " ") + " ip", packet, 0);
+        verdict.says(Given.repeated("not", 38, " ") + " ip", packet, 1);
+        verdict.says(Given.repeated("1", 77, "+") + "=77", packet, 1);
+        verdict.says("77=" + Given.repeated("1", 77, "+"), packet, 1);
+        verdict.says(Given.repeated("2", 60, "*") + "=0", packet, 1);
+        verdict.says("0-" + Given.repeated("1", 70, "-") + "=4294967226", packet, 1);
+        verdict.says(Given.repeated("len", 17, "-") + "=4294966396", packet, 1);
+    }
+
+    /** 60 bytes whose numbers tell their places: 100 + place; TCP, whole, its header has 24 bytes. */
+    private static int[] counted() {
         int[] packet = new int[60];
         for (int i = 0; i < 60; i++) {
             packet[i] = 100 + i;
@@ -184,93 +151,46 @@ public final class HoldsTest {
         packet[20] = 0;
         packet[21] = 0;
         packet[23] = 6;
-        says(check, "ether[0]=100", packet, 1);
-        says(check, "ether[0:1]=100", packet, 1);
-        says(check, "ether[0:2]=25701", packet, 1);
-        says(check, "ether[56:4]=2627575455", packet, 1);
-        says(check, "ether[len-4:4]=2627575455", packet, 1);
-        says(check, "ether[59]=159", packet, 1);
-        says(check, "ether[len-1]=159", packet, 1);
-        says(check, "ip[1]=115", packet, 1);
-        says(check, "ip[45]=159", packet, 1);
-        says(check, "ip[len-15]=159", packet, 1);
-        says(check, "ip[4294967294]=8", packet, 1);
-        says(check, "ip[0-1]=0", packet, 1);
-        says(check, "tcp[0]=138", packet, 1);
-        says(check, "tcp[1:2]=35724", packet, 1);
-        says(check, "tcp[len-len+1:2]=35724", packet, 1);
-        says(check, "tcp[4294967295]=137", packet, 1);
-        says(check, "tcp[0-38]=100", packet, 1);
-        says(check, "tcp[ip[0]&15]=144", packet, 1);
-        says(check, "ether[ether[ether[23]*2]&15]=108 or ether[{12}]=8", packet, 1);
-        says(check, "tcp[0]-ip[1]=23", packet, 1);
-        says(check, "udp[0]=138", packet, 0);
-        says(check, "udp[0]!=1", packet, 0);
-        says(check, "not udp[0]=1", packet, 1);
-        says(check, "udp[0]=138", with(packet, 23, 17), 1);
-        says(check, "tcp[0]=138", with(packet, 23, 17), 0);
-        says(check, "tcp[0]=udp[0]", packet, 0);
-        says(check, "tcp[0]=udp[0]", with(packet, 23, 17), 0);
-        says(check, "1=1 or ip[99]=1", with(packet, 12, 9), 1);
-        says(check, "ip[99]=1", with(packet, 12, 9), 0);
-        says(check, "ether[ip[0]-70]<999", packet, 1);
-        says(check, "ether[ip[0]-70]<999", with(packet, 12, 9), 0);
-        says(check, "ether[tcp[99]]<999", with(packet, 23, 1), 0);
-        says(check, "tcp[99]<999", with(packet, 21, 1), 0);
-        says(check, "tcp[99]<999", with(packet, 20, 31), 0);
-        says(check, "tcp[0]=138", with(packet, 20, 0xE0), 1);
-        says(check, "ip[0]=70", with(packet, 21, 1), 1);
+        return packet;
     }
 
-    private static void rejects(Check check) {
-        int[] packet = Given.tcp();
-        says(check, "1/0=0", packet, -1);
-        says(check, "1/0!=0", packet, -1);
-        says(check, "not 1/0=0", packet, -1);
-        says(check, "1=1 or 1/0=0", packet, 1);
-        says(check, "1=2 or 1/0=0", packet, -1);
-        says(check, "1/0=0 or 1=1", packet, -1);
-        says(check, "1/0=0 and 1=2", packet, -1);
-        says(check, "1=2 and 1/0=0", packet, 0);
-        says(check, "1=1 and 1/0=0", packet, -1);
-        says(check, "not(1=2 and 1/0=0)", packet, 1);
-        says(check, "1/{len-len}=0", packet, -1);
-        says(check, "1={len/{len-len}}*0", packet, -1);
-        says(check, "0*{1/0}=0", packet, -1);
-        says(check, "ether[60]=0", packet, -1);
-        says(check, "ether[59:2]=0", packet, -1);
-        says(check, "ether[57:4]=0", packet, -1);
-        says(check, "ether[4294967295:4]=0", packet, -1);
-        says(check, "ether[4294967295:4]*0=0", packet, -1);
-        says(check, "ether[0-1:2]=0", packet, -1);
-        says(check, "ether[2147483648]=0", packet, -1);
-        says(check, "ether[len]=0", packet, -1);
-        says(check, "len=ether[len]", packet, -1);
-        says(check, "ip[46]=0", packet, -1);
-        says(check, "tcp[26]=0", packet, -1);
-        says(check, "tcp[25:2]=0", packet, -1);
-        says(check, "not tcp[26]=0", packet, -1);
-        says(check, "ether[0]=0", new int[0], -1);
-        says(check, "len=0", new int[0], 1);
-        says(check, "udp[99]=1 or 1/0=0", packet, -1);
-        says(check, "tcp[0]=1", first(packet, 23), -1);
-        says(check, "tcp[0]=1", first(packet, 24), -1);
-        says(check, "udp[0]=1", first(packet, 24), 0);
-        says(check, "udp[0]=tcp[0]", first(packet, 34), 0);
+    private void relationsOfAccesses() {
+        check.sentence("Then the values are compared");
+        int[] packet = counted();
+        verdict.eachSays(packet, 1, "ether[0]=100", "ip[1]=115", "tcp[0]=138", "tcp[0]-ip[1]=23", "tcp[1:2]=35724", "tcp[len-len+1:2]=35724",
+                "ip[2]*2<ether[3]*3", "ether[59]>=ip[45]", "ip[45]<=tcp[21]", "100=ether[0]", "len<ether[0]", "ether[0]!=ether[1]",
+                "{ether[1]-ether[0]}=1", "tcp[0]&15|ip[1]<<8=29450");
+        verdict.eachSays(packet, 0, "ether[0]!=100", "ip[1]<115", "tcp[0]>138", "ether[0]=ether[1]", "len>=ether[0]");
     }
 
-    private static void withoutFilter(Check check) {
-        PacketSieve sieve = Given.typed("ip");
-        check.due("holds() of what is only typed", Given.EARLY, sieve::holds);
-        check.due("run() of what is only typed", Given.EARLY, sieve::run);
-        Given.type(sieve, " or");
-        check.due("compile() of no filter", Given.BAD, sieve::compile);
-        check.due("holds() behind it", Given.EARLY, sieve::holds);
-        check.due("run() behind it", Given.EARLY, sieve::run);
-        sieve.clear();
-        Given.type(sieve, Given.repeated("port 1", 15, " or "));
-        check.due("compile() of a filter that is too long", Given.TOO_LONG, sieve::compile);
-        check.due("holds() behind it", Given.EARLY, sieve::holds);
-        check.due("run() behind it", Given.EARLY, sieve::run);
+    private void protocolsOfRelations() {
+        check.sentence("if one of these does not hold, nor does the relation");
+        int[] packet = counted();
+        int[] noIp = Given.with(packet, 12, 9);
+        int[] udp = Given.with(packet, 23, 17);
+        int[] part = Given.with(packet, 21, 1);
+        verdict.eachSays(packet, 0, "udp[0]=138", "udp[0]!=138", "udp[0]>=0", "1=1 and udp[0]>=0", "tcp[0]=udp[0]", "udp[0]=tcp[0]");
+        verdict.eachSays(packet, 1, "not udp[0]>=0", "udp[0]>=0 or 1=1");
+        verdict.eachSays(udp, 0, "tcp[0]=138", "tcp[0]!=138", "tcp[0]=udp[0]", "ip[0]+tcp[0]>=0");
+        verdict.eachSays(udp, 1, "udp[0]=138", "ip[0]+udp[0]=208", "not tcp[0]>=0");
+        verdict.eachSays(noIp, 0, "ip[0]=70", "ip[0]!=70", "tcp[0]>=0", "udp[0]>=0", "ether[0]+ip[0]>=0", "ether[0]<=ip[0]");
+        verdict.eachSays(noIp, 1, "ether[0]=100", "ether[14]=70", "not ip[0]>=0", "len=60");
+        verdict.eachSays(part, 0, "tcp[0]>=0", "ip[0]+tcp[0]>=0", "len<=tcp[0]");
+        verdict.eachSays(part, 1, "ip[0]=70", "ether[0]=100", "not tcp[0]>=0", "tcp");
+    }
+
+    private void accessesInAccesses() {
+        check.sentence("(inner accesses, too)");
+        int[] packet = counted();
+        int[] noIp = Given.with(packet, 12, 9);
+        int[] udp = Given.with(packet, 23, 17);
+        int[] part = Given.with(packet, 21, 1);
+        verdict.eachSays(packet, 1, "ether[ip[0]-70]=100", "ether[tcp[0]-137]=101", "ip[tcp[0]-137]=115", "tcp[ip[0]&15]=144",
+                "ether[ether[ether[23]*2]]=6 or ether[12]=8", "ether[ether[23]]=106", "ether[{tcp[0]}-138]=100", "tcp[tcp[0]-138]=138");
+        verdict.eachSays(noIp, 0, "ether[ip[0]-70]>=0", "ether[ether[ip[0]-70]-100]>=0", "1<=ether[{ip[0]}-70]", "ether[tcp[0]-138]>=0");
+        verdict.eachSays(udp, 0, "ether[tcp[0]-138]>=0", "ip[tcp[0]-138]>=0", "udp[tcp[0]-138]>=0", "1+ether[1+tcp[0]-138]>=0");
+        verdict.eachSays(udp, 1, "ether[udp[0]-138]=100", "ip[udp[0]-137]=115", "udp[udp[0]-138]=138");
+        verdict.eachSays(part, 0, "ether[tcp[0]-138]>=0", "0<=ether[ether[tcp[0]-138]-100]");
+        verdict.eachSays(packet, 0, "ether[udp[0]-138]>=0", "tcp[udp[0]-138]>=0", "0<=ip[udp[0]-138]");
     }
 }

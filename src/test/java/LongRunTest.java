@@ -17,7 +17,7 @@ public final class LongRunTest {
 
     private final Check check;
     private final Random random;
-    private final PacketSieve sieve = new PacketSieve(Given.SNAP);
+    private final Sieve sieve = new Sieve(Given.SNAP);
     private int calls;
     private Oracle.Condition filter;
     private int[][] program;
@@ -96,7 +96,7 @@ public final class LongRunTest {
     private static void manyRefusals(Check check) {
         String sum = Given.repeated("1", 79, "+") + "=1";
         for (String text : new String[] {sum + "=", Given.repeated("(", 160, ""), Given.repeated("port 1", 15, " or ")}) {
-            PacketSieve sieve = Given.typed(text);
+            Sieve sieve = Given.typed(text);
             Object due = text.startsWith("port") ? Given.TOO_LONG : Given.BAD;
             for (int i = 20; i < CALLS - 1; i++) {
                 check.due("compile() of \"" + text + "\"", due, sieve::compile);
