@@ -8,6 +8,7 @@ final class Check {
     private int asked;
     private int wrong;
     private String sentence = "";
+    private int sentences;
     private int askedBefore;
 
     /** An answer as the issues write it: a number, or throws. and the name of an exception. */
@@ -23,6 +24,7 @@ final class Check {
     void sentence(String words) {
         endSentence();
         sentence = words;
+        sentences++;
         askedBefore = asked;
     }
 
@@ -43,7 +45,7 @@ final class Check {
 
     void finish() {
         endSentence();
-        System.out.println(asked + " answers, " + wrong + " not as due");
+        System.out.println(asked + " answers" + (sentences == 0 ? "" : " by " + sentences + " sentences") + ", " + wrong + " not as due");
         if (wrong != 0 || asked == 0) {
             System.exit(1);
         }

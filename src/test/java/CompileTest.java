@@ -16,6 +16,8 @@ public final class CompileTest {
 
     private void test() {
         becomesTheFilter();
+        nothingOfFormerFilters();
+        againAndAgain();
         textIsEmptyThen();
         howMany();
         noFilter();
@@ -42,6 +44,44 @@ public final class CompileTest {
             sieve.compile();
             check.due("holds() of \"" + texts[i] + "\"", dues[i], sieve::holds);
             check.due("run() of \"" + texts[i] + "\"", dues[i] * Given.SNAP, sieve::run);
+        }
+    }
+
+    /** A filter has its place in the object twice, perhaps: so each of the former ones is compiled twice. */
+    private void nothingOfFormerFilters() {
+        check.sentence("The text becomes the filter (nothing of former ones stays)");
+        String[] texts = {"1=1", "len=len", "ip[0]=1", "tcp[0]=1", "udp[len]=ip[0]", "tcp[udp[ip[ether[0]]]]=ether[len:4]", "not tcp", "host 1.2.3.4",
+            "src net 1.2.3.4/5", "dst port 6", "1+2-3*4/5<<6>>7&8|9=len", "(1=2 or 3=4)and not(5=6 and 7=8)", Given.repeated("len", 17, "+") + "=1",
+            "ether[0]=1 or ip[0]=1 or tcp[0]=1 or udp[0]=1"};
+        for (String text : texts) {
+            List<String> due = program(Given.compiled(text));
+            for (String former : texts) {
+                Sieve sieve = new Sieve(Given.SNAP);
+                for (String each : new String[] {former, former, text}) {
+                    Given.type(sieve, each);
+                    sieve.compile();
+                }
+                check.same("the program of \"" + text + "\" behind \"" + former + "\"", due, program(sieve));
+            }
+        }
+    }
+
+    private void againAndAgain() {
+        check.sentence("An object is used for at most 512 calls (of compile())");
+        String[] texts = {Given.repeated("1", 77, "+") + "=77", Given.repeated("1=2", 30, "or") + "or 1=1", Given.repeated("len", 17, "-") + "!=1",
+            "1=1", "{{{{{{{{1}}}}}}}}=ether[ether[ether[0]]]"};
+        int[] dues = {80, 64, 68, 4, 11};
+        for (int i = 0; i < texts.length; i++) {
+            Sieve sieve = new Sieve(Given.SNAP);
+            sieve.put(0, 1);
+            Given.type(sieve, "1=0");
+            while (sieve.calls() < Sieve.MOST_CALLS - 24) {
+                Check.answer(sieve::compile);
+                Given.type(sieve, texts[i]);
+                check.due("compile() of \"" + texts[i] + "\", call " + sieve.calls(), dues[i], sieve::compile);
+            }
+            check.due("holds() of \"" + texts[i] + "\"", i == 4 ? 0 : 1, sieve::holds);
+            check.due("run() of \"" + texts[i] + "\"", i == 4 ? 0 : Given.SNAP, sieve::run);
         }
     }
 

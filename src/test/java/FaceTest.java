@@ -21,19 +21,15 @@ public final class FaceTest {
         "int type(long, int) [IllegalArgumentException, IllegalStateException]",
     };
 
+    private final Check check = new Check();
+
     public static void main(String[] args) {
-        Check check = new Check();
-        Class<PacketSieve> type = PacketSieve.class;
+        new FaceTest().test(PacketSieve.class);
+    }
+
+    private void test(Class<?> type) {
         check.same("the class is public and final", Modifier.PUBLIC | Modifier.FINAL, type.getModifiers());
-        Set<String> open = new TreeSet<>();
-        Set<String> names = new TreeSet<>();
-        for (Method method : type.getDeclaredMethods()) {
-            if (!Modifier.isPrivate(method.getModifiers())) {
-                open.add(described(method));
-                names.add(method.getName());
-            }
-        }
-        check.same("the open methods", new TreeSet<>(Arrays.asList(FACE)), open);
+        methods(type);
         for (Constructor<?> constructor : type.getDeclaredConstructors()) {
             check.same("the constructor", "public PacketSieve(int)", constructor.toString());
         }
@@ -42,10 +38,28 @@ public final class FaceTest {
         }
         for (Class<?> inside : type.getDeclaredClasses()) {
             check.same("static " + inside, true, Modifier.isStatic(inside.getModifiers()));
-            methodsInside(check, inside, names);
+            check.same("private or package-visible " + inside, 0, inside.getModifiers() & (Modifier.PUBLIC | Modifier.PROTECTED));
+            fewParameters(inside);
         }
-        methodsInside(check, type, names);
+        fewParameters(type);
         check.finish();
+    }
+
+    private void methods(Class<?> type) {
+        Set<String> open = new TreeSet<>();
+        Set<String> openNames = new TreeSet<>();
+        Set<String> privateNames = new TreeSet<>();
+        for (Method method : type.getDeclaredMethods()) {
+            if (Modifier.isPrivate(method.getModifiers())) {
+                privateNames.add(method.getName());
+            } else if (!method.isSynthetic()) {
+                open.add(described(method));
+                openNames.add(method.getName());
+            }
+        }
+        check.same("the open methods", new TreeSet<>(Arrays.asList(FACE)), open);
+        privateNames.retainAll(openNames);
+        check.same("the private methods with a name of the face", new TreeSet<String>(), privateNames);
     }
 
     private static String described(Method method) {
@@ -55,11 +69,8 @@ public final class FaceTest {
                 + Arrays.toString(thrown);
     }
 
-    private static void methodsInside(Check check, Class<?> type, Set<String> names) {
+    private void fewParameters(Class<?> type) {
         for (Method method : type.getDeclaredMethods()) {
-            if (Modifier.isPrivate(method.getModifiers())) {
-                check.same(method + " bears a name of the face", false, names.contains(method.getName()));
-            }
             check.same(method + " has at most seven parameters", true, method.getParameterCount() <= 7);
         }
     }

@@ -1,5 +1,9 @@
+import java.util.List;
+
 /** Promise 4, with the words under "Terms": which texts are filters. */
 public final class GrammarTest {
+    private static final String[] WORDS = {"ip", "tcp", "udp", "ether", "len", "src", "dst", "host", "net", "port", "and", "or", "not"};
+
     private final Check check = new Check();
 
     public static void main(String[] args) {
@@ -9,6 +13,7 @@ public final class GrammarTest {
     private void test() {
         characters();
         words();
+        wordsInTheirPlaces();
         zerosAhead();
         biggestNumber();
         signs();
@@ -83,6 +88,52 @@ public final class GrammarTest {
                 "ethers[0]=1", "hosts 1.2.3.4", "nets 1.2.3.4/8", "por 1", "ports 1", "arp", "icmp", "proto 6", "ne", "true");
         noFilters("IP", "Ip", "iP", "TCP", "LEN=1", "NOT ip", "ip OR tcp", "ip AND tcp", "Host 1.2.3.4", "A=1", "ip`", "`ip", "ip@",
                 "ip1", "1ip", "tcp6", "len1=1", "ip_", "ip-tcp");
+    }
+
+    /** Which words may stand in a place: all the others, and those with a letter changed, make it no filter. */
+    private void wordsInTheirPlaces() {
+        check.sentence("What is not like that is no filter (each word in each place)");
+        place("*", "ip", "tcp", "udp");
+        place("* ip", "not");
+        place("ip * tcp", "and", "or");
+        place("ip and * udp", "not");
+        place("(* 80)", "port");
+        place("* port 80", "src", "dst", "not");
+        place("src * 80", "port");
+        place("dst * 1.2.3.4", "host");
+        place("* 1.2.3.4", "host");
+        place("* 1.2.3.4/5", "net");
+        place("* host 1.2.3.4", "src", "dst", "not");
+        place("src * 1.2.3.4/5", "net");
+        place("*=1", "len");
+        place("1<*", "len");
+        place("{*}+2=1", "len");
+        place("*[0]=1", "ether", "ip", "tcp", "udp");
+        place("1=*[len:2]", "ether", "ip", "tcp", "udp");
+        place("ip[*]=1", "len");
+        place("ip[*[0]]=1", "ether", "ip", "tcp", "udp");
+        place("1=1 * 2=2", "and", "or");
+    }
+
+    private void place(String pattern, String... fitting) {
+        for (String word : WORDS) {
+            if (List.of(fitting).contains(word)) {
+                filters(pattern.replace("*", word));
+            } else {
+                noFilters(pattern.replace("*", word));
+            }
+        }
+        for (String word : fitting) {
+            for (int i = 0; i < word.length(); i++) {
+                for (char c : new char[] {'a', 'o', 'x', 'z', (char) (word.charAt(i) ^ 32)}) {
+                    String changed = word.substring(0, i) + c + word.substring(i + 1);
+                    if (!List.of(WORDS).contains(changed)) {
+                        noFilters(pattern.replace("*", changed));
+                    }
+                }
+                noFilters(pattern.replace("*", word.substring(0, i) + word.substring(i + 1)));
+            }
+        }
     }
 
     private void zerosAhead() {

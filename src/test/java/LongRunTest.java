@@ -3,7 +3,6 @@ import java.util.Random;
 
 /** One object through its 512 calls: texts that compile and texts that don't, over one packet after the other. */
 public final class LongRunTest {
-    private static final int CALLS = 512;
     /** What one round may need: 20 to type, 8 to put, 6 to ask, and cut, compile and clear. */
     private static final int ROUND = 40;
     private static final int OBJECTS = 300;
@@ -18,7 +17,6 @@ public final class LongRunTest {
     private final Check check;
     private final Random random;
     private final Sieve sieve = new Sieve(Given.SNAP);
-    private int calls;
     private Oracle.Condition filter;
     private int[][] program;
 
@@ -31,7 +29,7 @@ public final class LongRunTest {
         Check check = new Check();
         for (int seed = 0; seed < OBJECTS && check.isAllRight(); seed++) {
             LongRunTest run = new LongRunTest(check, seed);
-            while (run.calls <= CALLS - ROUND && check.isAllRight()) {
+            while (run.sieve.calls() <= Sieve.MOST_CALLS - ROUND && check.isAllRight()) {
                 run.compile(TEXTS[run.random.nextInt(TEXTS.length)]);
                 run.ask(run.put());
             }
@@ -42,7 +40,6 @@ public final class LongRunTest {
 
     private void compile(String text) {
         Given.type(sieve, text);
-        calls += (text.length() + 7) / 8 + 2;
         Object due;
         try {
             Oracle.Condition parsed = Oracle.parse(text);
@@ -66,18 +63,15 @@ public final class LongRunTest {
             from = 0;
             sieve.cut(0);
         }
-        calls += 2;
         for (int i = from; i < packet.length; i += 8) {
             int[] eight = Arrays.copyOfRange(packet, i, Math.min(i + 8, packet.length));
             int due = i + eight.length;
             check.due("put of " + eight.length, due, () -> sieve.put(Given.packed(eight), eight.length));
-            calls++;
         }
         return packet;
     }
 
     private void ask(int[] packet) {
-        calls += 6;
         if (filter == null) {
             check.due("holds() without a filter", Given.EARLY, sieve::holds);
             check.due("run() without a filter", Given.EARLY, sieve::run);
@@ -98,7 +92,7 @@ public final class LongRunTest {
         for (String text : new String[] {sum + "=", Given.repeated("(", 160, ""), Given.repeated("port 1", 15, " or ")}) {
             Sieve sieve = Given.typed(text);
             Object due = text.startsWith("port") ? Given.TOO_LONG : Given.BAD;
-            for (int i = 20; i < CALLS - 1; i++) {
+            while (sieve.calls() < Sieve.MOST_CALLS - 1) {
                 check.due("compile() of \"" + text + "\"", due, sieve::compile);
             }
             check.due("clear() behind them", text.length(), sieve::clear);
