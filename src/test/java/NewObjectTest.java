@@ -13,6 +13,7 @@ public final class NewObjectTest {
         noRun();
         snap();
         ownState();
+        sideBySide();
         check.finish();
     }
 
@@ -88,5 +89,36 @@ public final class NewObjectTest {
         fresh.compile();
         check.due("run() of the object that was there", Given.SNAP, used::run);
         check.due("clear() of the object that was there", 2, used::clear);
+    }
+
+    private void sideBySide() {
+        check.sentence("A new object (two of them side by side)");
+        Sieve one = new Sieve(11);
+        Sieve other = new Sieve(22);
+        String[][] pieces = {{"ether[0]", "ip[0]+"}, {"*2=", "len"}, {"14", "=75"}};
+        for (String[] piece : pieces) {
+            Given.type(one, piece[0]);
+            Given.type(other, piece[1]);
+        }
+        check.due("compile() of the one", 5, one::compile);
+        check.due("compile() of the other", 10, other::compile);
+        other.put(0, 6);
+        one.put(7, 1);
+        other.put(0, 6);
+        one.put(9, 1);
+        other.put(Given.packed(8, 0, 73), 3);
+        one.cut(1);
+        check.due("cut(15) of the other", 15, () -> other.cut(15));
+        check.due("holds() of the one", 1, one::holds);
+        check.due("run() of the one", 11, one::run);
+        check.due("holds() of the other", 0, other::holds);
+        check.due("set(14, 60) of the other", 73, () -> other.set(14, 60));
+        check.due("run() of the other", 22, other::run);
+        check.due("state(0) of the one", 4, () -> one.state(0));
+        check.due("state(0) of the other", 9, () -> other.state(0));
+        check.due("state(3) of the one", 0, () -> one.state(3));
+        check.due("state(3) of the other", 15, () -> other.state(3));
+        check.due("instruction(0, 0) of the one", 2, () -> one.instruction(0, 0));
+        check.due("instruction(0, 0) of the other", 3, () -> other.instruction(0, 0));
     }
 }
